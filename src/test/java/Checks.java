@@ -1,0 +1,27 @@
+/** Counts and prints the answers that are not the ones that are due. */
+final class Checks {
+    private int wrong = 0;
+    private String part = "";
+
+    void part(String name) {
+        part = name;
+    }
+
+    void due(String what, long got, long want) {
+        if (got != want) {
+            wrong++;
+            System.out.println(part + ": " + what + " answered " + got + ", due is " + want);
+        }
+    }
+
+    void due(String what, boolean got, boolean want) {
+        due(what, got ? 1L : 0L, want ? 1L : 0L);
+    }
+
+    void end() {
+        System.out.println(wrong == 0 ? "all answers are as due" : wrong + " answers are not as due");
+        if (wrong != 0) {
+            System.exit(1);
+        }
+    }
+}
