@@ -307,20 +307,17 @@ public final class WalkerPlan {
     }
 
     private void keepWithoutWayOut(int l) {
+        int withWayOut = 0;
+        for (int e = 0; e < edgeCount; e++) {
+            if (fits(e, l)) {
+                withWayOut |= 1 << begins[e];
+            }
+        }
         for (int v = 0; v < VERTICES; v++) {
-            if (!hasWayOut(v, l)) {
+            if ((withWayOut >> v & 1) == 0) {
                 send(v, v);
             }
         }
-    }
-
-    private boolean hasWayOut(int v, int l) {
-        for (int e = 0; e < edgeCount; e++) {
-            if (begins[e] == v && fits(e, l)) {
-                return true;
-            }
-        }
-        return false;
     }
 
     private void keepWithNumber(int n) {

@@ -88,6 +88,15 @@ public final class StepTest {
         x.add(OUT, 2);
         x.add(MAYBE, 2);
         dueAt(x, 0, 2, 1, 0);
+        c.part("MAYBE on a lone edge, then on none");
+        WalkerPlan y = new WalkerPlan();
+        y.from(1);
+        y.add(MAYBE, 2);
+        dueAt(y, 1, 0);
+        y.join(0, 1, 1);
+        dueAt(y, 0, 1);
+        y.cut(0, 1, 1);
+        dueAt(y, 1, 0);
     }
 
     private static void hasComparesNumbers() {
