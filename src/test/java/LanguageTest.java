@@ -1,4 +1,4 @@
-import java.lang.reflect.Field;
+import java.io.IOException;
 import java.lang.reflect.Member;
 import java.lang.reflect.Method;
 import java.lang.reflect.Modifier;
@@ -9,10 +9,8 @@ import java.util.Arrays;
 import java.util.List;
 import java.util.Set;
 import java.util.TreeSet;
-import java.util.regex.Matcher;
-import java.util.regex.Pattern;
 
-/** The public face of the document, and those rules of LANGUAGE.md that a short look can check. */
+/** The public face of the document, and the rules of LANGUAGE.md as far as Rules sees them. */
 public final class LanguageTest {
     private static final String SOURCE = "src/main/java/WalkerPlan.java";
     private static final Set<String> FACE = Set.of(
@@ -33,14 +31,10 @@ public final class LanguageTest {
         "public int startsAt(int)",
         "public int diesAfter()",
         "public int edges()");
-    private static final String BANNED =
-        "\\b(package|import|float|double|String|Math|Integer|Long|System|Arrays|Object|null|throw|throws|try|catch"
-        + "|synchronized|assert|instanceof|interface|enum|record|protected|var|this|super)\\b|->|::|\\[\\s*\\]\\s*\\[";
     private static final Checks c = new Checks();
 
     public static void main(String[] args) throws Exception {
         face();
-        fields();
         source(Files.readString(Path.of(SOURCE)));
         c.end();
     }
@@ -67,38 +61,13 @@ public final class LanguageTest {
         for (Method m : x.getDeclaredMethods()) {
             boolean hides = Modifier.isPrivate(m.getModifiers()) && publicMethods.contains(m.getName());
             c.due("private " + m.getName() + " bears a public name", hides, false);
-            c.due("rule 10: parameters of " + m.getName() + " are at most seven", m.getParameterCount() <= 7, true);
         }
     }
 
-    private static void fields() {
-        c.part("rules 2, 5 and 10");
-        int beside = 0;
-        for (Field f : WalkerPlan.class.getDeclaredFields()) {
-            Class<?> type = f.getType();
-            if (Modifier.isStatic(f.getModifiers())) {
-                boolean constant = Modifier.isFinal(f.getModifiers()) && (type == int.class || type == long.class);
-                c.due("static " + f.getName() + " is a constant", constant, true);
-            } else {
-                beside++;
-                Class<?> item = type.isArray() ? type.getComponentType() : type;
-                c.due("the type of " + f.getName() + " is allowed", item.isPrimitive(), true);
-            }
-        }
-        c.due("the fields are at most forty", beside <= 40, true);
-    }
-
-    private static void source(String text) {
+    private static void source(String text) throws IOException {
         c.part("the source");
-        String code = text.replaceAll("(?s)/\\*.*?\\*/", "").replaceAll("//[^\n]*", "");
-        Matcher banned = Pattern.compile(BANNED).matcher(code);
-        while (banned.find()) {
-            c.due("use of " + banned.group(), true, false);
-        }
-        Matcher made = Pattern.compile("[^\n]*\\bnew\\b[^\n]*").matcher(code);
-        while (made.find()) {
-            boolean field = made.group().matches("    private final int\\[\\] \\w+ = new int\\[[A-Z_]+\\];");
-            c.due("rule 4: made in a field's initialiser:" + made.group(), field, true);
+        for (String row : Rules.broken(text)) {
+            c.due(row, true, false);
         }
     }
 }
